@@ -272,6 +272,10 @@ public final class PromisesTest {
         check.yes("want(2, 2, 0, 0)", x.want(2, 2, 0, 0));
         check.same("no seed fits", x.forced(5, 0, 0), NONE);
         check.same("no seed fits, a place always 0", x.forced(5, 15, 0), NONE);
+        wantSeed(x, 3, 5, 31);
+        check.same("the greatest seed alone", x.forced(8, 3, 1), 1);
+        wantSeed(x, 4, 5, 0);
+        check.same("the zero seed alone", x.forced(16, 3, 1), 0);
         for (int wrong : new int[] {-1, 64, LOW, HIGH}) {
             check.same("forced(" + wrong + ", 0, 0)", x.forced(wrong, 0, 0), BAD);
         }
