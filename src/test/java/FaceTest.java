@@ -58,6 +58,9 @@ public final class FaceTest {
         }
         check.yes("the class is public and final", Modifier.isPublic(type.getModifiers()) && Modifier.isFinal(type.getModifiers()));
         check.same("nested classes", type.getDeclaredClasses().length, 0);
+        check.yes("the class has no package", type.getPackageName().isEmpty());
+        check.yes("the class inherits from Object alone", type.getSuperclass() == Object.class);
+        check.same("interfaces", type.getInterfaces().length, 0);
         check.same("BAD", SeedSolver.BAD, -1);
         check.same("NONE", SeedSolver.NONE, -2);
         check.same("FREE", SeedSolver.FREE, 2);

@@ -2,7 +2,7 @@ import java.util.HashSet;
 import java.util.Set;
 
 /** The document said again, word by word and without shortcuts, to compare SeedSolver with. */
-final class Model {
+final class Model implements Face {
     private final int n;
     private final boolean[] taps;
     private final boolean[][] shifters = new boolean[4][];
@@ -20,7 +20,7 @@ final class Model {
     }
 
     int seedCount() {
-        return (int) Math.round(Math.pow(2, n));
+        return 1 << n;
     }
 
     private boolean[] bitsOf(int number) {
@@ -77,7 +77,8 @@ final class Model {
         return true;
     }
 
-    boolean shifter(int chain, int set) {
+    @Override
+    public boolean shifter(int chain, int set) {
         if (!in(chain, 0, 3) || !in(set, 0, seedCount() - 1)) {
             return false;
         }
@@ -85,7 +86,8 @@ final class Model {
         return true;
     }
 
-    boolean want(int cube, int cycle, int chain, int value) {
+    @Override
+    public boolean want(int cube, int cycle, int chain, int value) {
         if (!in(cube, 0, 5) || !in(cycle, 0, 15) || !in(chain, 0, 3) || !in(value, 0, 2)) {
             return false;
         }
@@ -93,7 +95,8 @@ final class Model {
         return true;
     }
 
-    int expand(int seed, int cycle, int chain) {
+    @Override
+    public int expand(int seed, int cycle, int chain) {
         if (!in(seed, 0, seedCount() - 1) || !in(cycle, 0, 15) || !in(chain, 0, 3)) {
             return -1;
         }
@@ -104,7 +107,8 @@ final class Model {
         return parity(state, shifters[chain]);
     }
 
-    int seeds(int set) {
+    @Override
+    public int seeds(int set) {
         if (!in(set, 0, 63)) {
             return -1;
         }
@@ -115,7 +119,8 @@ final class Model {
         return count;
     }
 
-    int leastSeed(int set) {
+    @Override
+    public int leastSeed(int set) {
         if (!in(set, 0, 63)) {
             return -1;
         }
@@ -126,7 +131,8 @@ final class Model {
         return least;
     }
 
-    int greatestSeed(int set) {
+    @Override
+    public int greatestSeed(int set) {
         if (!in(set, 0, 63)) {
             return -1;
         }
@@ -137,7 +143,8 @@ final class Model {
         return greatest;
     }
 
-    int forced(int set, int cycle, int chain) {
+    @Override
+    public int forced(int set, int cycle, int chain) {
         if (!in(set, 0, 63) || !in(cycle, 0, 15) || !in(chain, 0, 3)) {
             return -1;
         }
@@ -154,7 +161,8 @@ final class Model {
     }
 
     /** Adds one seed after another to all that can be covered so far; unlike SeedSolver it goes from the empty set. */
-    int seedsNeeded(int set) {
+    @Override
+    public int seedsNeeded(int set) {
         if (!in(set, 0, 63)) {
             return -1;
         }
@@ -182,7 +190,8 @@ final class Model {
         return -2;
     }
 
-    boolean forget(int cube) {
+    @Override
+    public boolean forget(int cube) {
         if (!in(cube, 0, 5)) {
             return false;
         }

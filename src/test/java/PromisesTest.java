@@ -28,6 +28,7 @@ public final class PromisesTest {
         forgetClears();
         forgetRefuses();
         asksChangeNothing();
+        exampleOfTheReadme();
         check.end();
     }
 
@@ -413,5 +414,26 @@ public final class PromisesTest {
         check.same("greatestSeed again", x.greatestSeed(21), greatest);
         check.same("forced again", x.forced(21, 9, 2), forced);
         check.same("expand again", x.expand(33, 9, 2), value);
+    }
+
+    private static void exampleOfTheReadme() {
+        SeedSolver solver = new SeedSolver(4, 9);
+        check.yes("want(0, 0, 0, 1)", solver.want(0, 0, 0, 1));
+        check.yes("want(0, 1, 0, 0)", solver.want(0, 1, 0, 0));
+        check.yes("want(0, 5, 0, 1)", solver.want(0, 5, 0, 1));
+        check.same("README, seeds(1)", solver.seeds(1), 2);
+        check.same("README, leastSeed(1)", solver.leastSeed(1), 1);
+        check.same("README, greatestSeed(1)", solver.greatestSeed(1), 5);
+        check.same("README, forced(1, 4, 0)", solver.forced(1, 4, 0), 1);
+        check.same("README, forced(1, 2, 0)", solver.forced(1, 2, 0), FREE);
+        check.same("README, expand(5, 2, 0)", solver.expand(5, 2, 0), 1);
+        check.yes("want(1, 0, 0, 0)", solver.want(1, 0, 0, 0));
+        check.same("README, leastSeed(3)", solver.leastSeed(3), NONE);
+        check.same("README, seedsNeeded(3)", solver.seedsNeeded(3), 2);
+        check.same("README, seeds(64)", solver.seeds(64), BAD);
+        check.yes("forget(1)", solver.forget(1));
+        check.same("README, seedsNeeded(3) after forget", solver.seedsNeeded(3), 1);
+        check.yes("shifter(0, 3)", solver.shifter(0, 3));
+        check.same("README, expand(3, 0, 0)", solver.expand(3, 0, 0), 0);
     }
 }
